@@ -17,7 +17,7 @@ public final class CompileTest {
     private static void wrongNumberLeavesTheText() {
         Desk desk = new Desk().types("a=");
         for (int k : new int[] {-1, 4, Integer.MIN_VALUE, Integer.MAX_VALUE}) {
-            Desk.dueThrow("compile(" + k + ")", () -> desk.it.compile(k), Desk.BAD);
+            Desk.dueThrow("compile(" + k + ")", () -> desk.it().compile(k), Desk.BAD);
             desk.counts(1, 2).counts(0, -1).counts(2, 0);
         }
         desk.has(3, "5", 1).counts(1, 0).counts(2, 1).runs(3, 1).holds(0, 5);

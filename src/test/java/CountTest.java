@@ -18,8 +18,8 @@ public final class CountTest {
     private static void places() {
         Desk desk = new Desk().counts(0, -1).has(0, "!1").counts(0, -1);
         desk.refuses("!1;!2;x", 6).has(0, "!1").counts(0, 6).runs(0, 1).counts(0, 6).refuses("x", 0).counts(0, 0);
-        Desk.dueThrow("type", () -> desk.it.type(1), Desk.BAD);
-        Desk.dueThrow("compile", () -> desk.it.compile(9), Desk.BAD);
+        Desk.dueThrow("type", () -> desk.it().type(1), Desk.BAD);
+        Desk.dueThrow("compile", () -> desk.it().compile(9), Desk.BAD);
         desk.counts(0, 0).refuses("", 0).refuses("!r%2", 4);
         desk.types("abc").counts(1, 3).types("de").counts(1, 5).counts(0, 4).refuses("", 1).counts(1, 0);
     }

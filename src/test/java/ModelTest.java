@@ -2,14 +2,16 @@ import java.util.Random;
 
 /** Many runs of calls, always the same ones, on the program and on the model: all promises. */
 public final class ModelTest {
-    private static final int OBJECTS = 4000;
-    private static final int CALLS = 60;
+    private static final int OBJECTS = 12000;
+    /** What an object answers after its 512th call is free; a round makes fewer than 50. */
+    private static final int MOST_CALLS = 512 - 50;
 
     private final Random random;
     private final PascalDesk desk = new PascalDesk();
     private final Model model = new Model();
     private final StringBuilder calls = new StringBuilder();
     private boolean same = true;
+    private int made;
 
     private ModelTest(long seed) {
         random = new Random(seed);
@@ -30,7 +32,7 @@ public final class ModelTest {
     }
 
     private void useObject() {
-        for (int i = 0; i < CALLS && same; i++) {
+        while (made < MOST_CALLS && same) {
             int kind = random.nextInt(10);
             if (kind < 4) {
                 procedure();
@@ -45,7 +47,9 @@ public final class ModelTest {
                 int n = random.nextInt(18);
                 compare("tape(" + numbers + ", " + n + ")", () -> { desk.tape(numbers, n); return 0; }, () -> { model.tape(numbers, n); return 0; });
             }
-            compareState();
+            for (int what = 0; what <= 2; what++) {
+                compareCount(what);
+            }
         }
     }
 
@@ -64,12 +68,16 @@ public final class ModelTest {
         int first = random.nextInt(60) == 0 ? 10 : random.nextInt(3);
         int second = random.nextInt(60) == 0 ? 10 : random.nextInt(3);
         compare("run(" + k + ", " + first + ", " + second + ")", () -> desk.run(k, first, second), () -> model.run(k, first, second));
+        compareRun();
     }
 
-    private void compareState() {
-        for (int what = 0; what <= 9; what++) {
-            int w = what;
-            compare(null, () -> desk.count(w), () -> model.count(w));
+    private void compareCount(int what) {
+        compare(null, () -> desk.count(what), () -> model.count(what));
+    }
+
+    private void compareRun() {
+        for (int what = 3; what <= 10; what++) {
+            compareCount(what);
         }
         for (int i = 0; i <= 12; i++) {
             int at = i;
@@ -79,6 +87,7 @@ public final class ModelTest {
     }
 
     private void compare(String call, Desk.Call ofDesk, Desk.Call ofModel) {
+        made++;
         String got = answer(ofDesk);
         String want = answer(ofModel);
         if (call != null) {

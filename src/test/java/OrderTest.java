@@ -25,9 +25,9 @@ public final class OrderTest {
     private static void typeOrder() {
         Desk desk = new Desk().types("!1;!1;!1;!1;!1;!1;!1;!1;!1;!1;!1;!1;!1;!1;!1;!1");
         desk.counts(1, 47);
-        Desk.dueThrow("bad last", () -> desk.it.type(Desk.pack("abcdef\t")), Desk.BAD);
-        Desk.dueThrow("bad first", () -> desk.it.type(Desk.pack("\tabcdef")), Desk.BAD);
-        Desk.dueThrow("too many", () -> desk.it.type(Desk.pack("ab")), Desk.STATE);
+        Desk.dueThrow("bad last", () -> desk.it().type(Desk.pack("abcdef\t")), Desk.BAD);
+        Desk.dueThrow("bad first", () -> desk.it().type(Desk.pack("\tabcdef")), Desk.BAD);
+        Desk.dueThrow("too many", () -> desk.it().type(Desk.pack("ab")), Desk.STATE);
         desk.counts(1, 47);
     }
 }

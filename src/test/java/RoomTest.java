@@ -3,7 +3,7 @@ import java.lang.management.ManagementFactory;
 
 /** All calls of a run live in one room: no call makes objects, and a new object makes few. */
 public final class RoomTest {
-    private static final int ROUNDS = 100;
+    private static final int ROUNDS = 40;
 
     private static final ThreadMXBean BEAN = (ThreadMXBean) ManagementFactory.getThreadMXBean();
 

@@ -18,16 +18,16 @@ public final class TapeTest {
     private static void refusesLengths() {
         Desk desk = twoParts().tape(1);
         for (int n : new int[] {0, -1, 17, Integer.MIN_VALUE, Integer.MAX_VALUE}) {
-            Desk.dueThrow("tape(0, " + n + ")", () -> { desk.it.tape(0, n); return 0; }, Desk.BAD);
+            Desk.dueThrow("tape(0, " + n + ")", () -> { desk.it().tape(0, n); return 0; }, Desk.BAD);
         }
         desk.runs(0, 7).wrote(4, 5, 6, 1, 2, 3);
     }
 
     private static void lowestFirst() {
         Desk desk = twoParts();
-        desk.it.tape(0x10, 2);
+        desk.it().tape(0x10, 2);
         desk.runs(0, 7).wrote(4, 1, 5, 2, 6, 3);
-        desk.it.tape(0x01, 2);
+        desk.it().tape(0x01, 2);
         desk.runs(0, 7).wrote(1, 4, 2, 5, 3, 6);
     }
 
@@ -45,13 +45,13 @@ public final class TapeTest {
 
     private static void sixteenNumbers() {
         Desk desk = new Desk().has(0, "d=0;&{@a<9{a=a+1;d=d*2}|@b<9{b=b+1;d=d*2+1}}");
-        desk.it.tape(0xFEDCBA9876543210L, 16);
+        desk.it().tape(0xFEDCBA9876543210L, 16);
         desk.runs(0, 58);
         desk.holds(0, 9).holds(1, 9).holds(3, alternated());
         Desk high = twoParts();
-        high.it.tape(0x8888888888888880L, 16);
+        high.it().tape(0x8888888888888880L, 16);
         high.runs(0, 7).wrote(1, 2, 3, 4, 5, 6);
-        high.it.tape(0xFFFFFFFFFFFFFFFFL, 16);
+        high.it().tape(0xFFFFFFFFFFFFFFFFL, 16);
         high.runs(0, 7).wrote(4, 5, 6, 1, 2, 3);
     }
 
@@ -66,7 +66,7 @@ public final class TapeTest {
 
     private static void higherHalfBytesAreLeftOut() {
         Desk desk = twoParts();
-        desk.it.tape(0xFFFFFFF0L, 1);
+        desk.it().tape(0xFFFFFFF0L, 1);
         desk.runs(0, 7).wrote(1, 2, 3, 4, 5, 6);
     }
 

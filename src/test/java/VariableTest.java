@@ -15,7 +15,7 @@ public final class VariableTest {
             desk.holds(i, i + 1);
         }
         for (int i : new int[] {-1, 11, Integer.MIN_VALUE, Integer.MAX_VALUE}) {
-            Desk.dueThrow("variable(" + i + ")", () -> desk.it.variable(i), Desk.BAD);
+            Desk.dueThrow("variable(" + i + ")", () -> desk.it().variable(i), Desk.BAD);
         }
     }
 

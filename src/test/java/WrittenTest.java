@@ -4,7 +4,7 @@ public final class WrittenTest {
         Desk desk = new Desk().wrote();
         desk.has(0, "!1;!1/4;!0-3;r=2;!r*r").runs(0, 5).wrote(1, 0.25, -3, 4);
         for (int i : new int[] {-1, 4, 11, 12, Integer.MIN_VALUE, Integer.MAX_VALUE}) {
-            Desk.dueThrow("written(" + i + ")", () -> desk.it.written(i), Desk.MISSING);
+            Desk.dueThrow("written(" + i + ")", () -> desk.it().written(i), Desk.MISSING);
         }
         desk.has(1, "a=1").runs(1, 1).wrote();
         desk.has(1, "!7;!1/0;!8").fails(1, Desk.ARITHMETIC).wrote(7);
