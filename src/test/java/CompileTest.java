@@ -1,4 +1,4 @@
-/** Promise 3: compile; the grammar, the TYPES and THE PLACE of the terms. */
+/** Promise 3: compile; the grammar and the TYPES of the terms. PlaceEdges has DEPTH and the ends of texts. */
 public final class CompileTest {
     public static void main(String[] args) {
         wrongNumberLeavesTheText();
@@ -6,9 +6,6 @@ public final class CompileTest {
         countsStatements();
         everyStatementIsRead();
         placesOfCharacters();
-        placesOfEnds();
-        placesOfDepth();
-        depthsThatAreOver();
         placesOfTypes();
         rightTypes();
         Desk.end();
@@ -70,45 +67,6 @@ public final class CompileTest {
         desk.refuses("&!1", 1).refuses("&1{!1|!2}", 1).refuses("&{|!1}", 2).refuses("&{!1}", 4);
         desk.refuses("&{!1|}", 5).refuses("&{!1|!2|!3}", 7).refuses("&{!1|!2}{", 8).refuses("&{!1;|!2}", 5);
         desk.refuses("&{a=1}", 5).refuses("AAAAAAAA", 0).refuses("!~", 1).refuses("~", 0);
-    }
-
-    private static void placesOfEnds() {
-        Desk desk = new Desk();
-        String[] begun = {
-            "", "a", "a=", "a=1;", "v", "v[", "v[1", "v[1]", "v[1]=", "?", "?1", "?1{", "?1{!1", "?1{!1;", "@", "@a<5",
-            "@a<5{", "!", "!(", "!(1", "!#", "!1+", "!1*", "!1<", "!v", "!v[", "!v[1", "W", "S", "P", "&", "&{", "&{!1",
-            "&{!1|", "&{!1|!2", "a=1;b", "?1{?1{!1}", "!((1)", "!((((("
-        };
-        for (String text : begun) {
-            desk.refuses(text, text.length());
-        }
-        desk.refuses("!1;!1;!1;!1;!1;!1;!1;!1;!1;!1;!1;!1;!1;!1;!1;?1{", 48);
-    }
-
-    private static void placesOfDepth() {
-        Desk desk = new Desk();
-        desk.has(0, "!(((((1)))))", 1).refuses("!((((((1))))))", 6);
-        desk.has(0, "!#####a", 1).refuses("!######a", 6);
-        desk.has(0, "!v[v[v[v[v[0]]]]]", 1).refuses("!v[v[v[v[v[v[0]]]]]]", 12);
-        desk.has(0, "v[v[v[v[v[0]]]]]=1", 1).refuses("v[v[v[v[v[v[0]]]]]]=1", 11);
-        desk.has(0, "?1{?1{?1{?1{?1{!1}}}}}", 6).refuses("?1{?1{?1{?1{?1{?1{!1}}}}}}", 17);
-        desk.has(0, "@1{@1{@1{@1{@1{!1}}}}}", 6).refuses("@1{@1{@1{@1{@1{@1{!1}}}}}}", 17);
-        desk.has(0, "&{&{&{&{&{!1|!1}|!1}|!1}|!1}|!1}", 11).refuses("&{&{&{&{&{&{!1|!1}|!1}|!1}|!1}|!1}|!1}", 11);
-        desk.refuses("?1{?1{?1{?1{?1{!(1)}}}}}", 16).refuses("?1{?1{?1{?1{?1{!#1}}}}}", 16);
-        desk.refuses("?1{?1{?1{?1{?1{!v[1]}}}}}", 17).refuses("?1{?1{?1{?1{?1{v[1]=1}}}}}", 16);
-        desk.refuses("?1{?1{?1{?1{?1{?(1){!1}}}}}}", 16).refuses("?1{?1{?1{?1{?1{&{!1|!1}}}}}}", 16);
-        desk.has(0, "?1{!(#v[(1)])}", 2).refuses("?1{!(#v[((1))])}", 9).refuses("!((((((1", 6);
-        desk.refuses("!(#(#(#a", 6).refuses("!#(#(#(a", 6);
-    }
-
-    private static void depthsThatAreOver() {
-        Desk desk = new Desk();
-        desk.has(0, "!#a+#a+#a+#a+#a+#a+(((((1)))))", 1).has(0, "!(1)+(1)+(1)+(1)+(1)+(1)+#####1", 1);
-        desk.has(0, "?1{!1};?1{!1};?1{!1};?1{!1};?1{!1};?1{!(1)}", 12);
-        desk.has(0, "v[1]=v[1]+v[1]+v[1]+v[1]+v[1]+v[v[v[v[v[1]]]]]", 1);
-        desk.has(0, "?(((((1))))){!1};!#####1", 3).has(0, "&{!((((1))))|!####1}", 3);
-        desk.has(0, "!(##a+####a)", 1).refuses("!(##a+#####a)", 10);
-        desk.has(0, "!#12+#####123", 1).has(0, "!#(1)*#v[1]*#####2", 1);
     }
 
     private static void placesOfTypes() {

@@ -7,7 +7,8 @@ final class FaceEdges {
         Sentence.holds("An object is used for at most 512 calls after it has been made; what later calls answer is free.",
                 FaceEdges::the512thCall);
         Sentence.holds("No PROCEDURES; the TAPE is one 0.", FaceEdges::newObject);
-        Sentence.holds("The TAPE becomes the n (1 .. 16) lowest half-bytes of the number, the lowest first.", FaceEdges::halfBytes);
+        Sentence.holds("The TAPE becomes the n (1 .. 16) lowest half-bytes of the number, the lowest first.",
+                FaceEdges::halfBytes);
         Sentence.holds("RUNS PROCEDURE k, the SEMAPHORES being first and second (0 .. 9).", FaceEdges::numbersOfRun);
         Sentence.holds("None: Missing.", FaceEdges::noneIsMissing);
         Sentence.holds("Answers the STEPS.", FaceEdges::answersTheSteps);
@@ -139,6 +140,8 @@ final class FaceEdges {
             for (double whole : new double[] {1000, -1000, 0, 1, -1, 999, -999}) {
                 desk.sets(i, whole).holds(i, whole);
             }
+            // An int has no -0.0.
+            desk.sets(i, -0.0).holds(i, i >= 4 && i <= 6 ? -0.0 : 0.0).sets(i, -999);
             for (double wrong : outside) {
                 desk.refusesToSet(i, wrong).holds(i, -999);
             }
@@ -238,7 +241,8 @@ final class FaceEdges {
     private static void badByteFirst() {
         for (int length = 40; length <= 48; length++) {
             Desk desk = new Desk().types("S0;S0;S0;S0;S0;S0;S0;S0;S0;S0;S0;S0;S0;S0;S0;S0;".substring(0, length));
-            for (String wrong : new String[] {"aaaaaaa ", " aaaaaaa", "aaaa\u007faaa", "\u0080aaaaaaa", "aaaaaaa\u00ff", "\u0001"}) {
+            String[] bad = {"aaaaaaa ", " aaaaaaa", "aaaa\u007faaa", "\u0080aaaaaaa", "aaaaaaa\u00ff", "\u0001"};
+            for (String wrong : bad) {
                 desk.refusesToType(wrong, Desk.BAD);
             }
             if (length > 40) {

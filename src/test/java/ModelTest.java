@@ -34,7 +34,9 @@ public final class ModelTest {
     private void useObject() {
         while (made < MOST_CALLS && same) {
             int kind = random.nextInt(10);
-            if (kind < 4) {
+            if (random.nextInt(30) == 0) {
+                anyArguments();
+            } else if (kind < 4) {
                 procedure();
             } else if (kind < 8) {
                 runOnce();
@@ -69,6 +71,25 @@ public final class ModelTest {
         int second = random.nextInt(60) == 0 ? 10 : random.nextInt(3);
         compare("run(" + k + ", " + first + ", " + second + ")", () -> desk.run(k, first, second), () -> model.run(k, first, second));
         compareRun();
+    }
+
+    /** Arguments from all that there are, most of them out of range. */
+    private void anyArguments() {
+        long numbers = random.nextLong();
+        int i = random.nextInt();
+        int small = random.nextInt(13) - 1;
+        double v = Double.longBitsToDouble(numbers);
+        compare("type(" + numbers + ")", () -> desk.type(numbers), () -> model.type(numbers));
+        compare("compile(" + i + ")", () -> desk.compile(i), () -> model.compile(i));
+        compare("tape of " + i, () -> { desk.tape(numbers, i); return 0; }, () -> { model.tape(numbers, i); return 0; });
+        compare("run(0, " + i + ", 0)", () -> desk.run(0, i, 0), () -> model.run(0, i, 0));
+        compare("run(0, 0, " + i + ")", () -> desk.run(0, 0, i), () -> model.run(0, 0, i));
+        compare("run(" + i + ", 0, 0)", () -> desk.run(i, 0, 0), () -> model.run(i, 0, 0));
+        compare("set(" + small + ", " + v + ")", () -> { desk.set(small, v); return 0; }, () -> { model.set(small, v); return 0; });
+        compare("set(" + i + ", 1)", () -> { desk.set(i, 1); return 0; }, () -> { model.set(i, 1); return 0; });
+        compare("variable(" + i + ")", () -> desk.variable(i), () -> model.variable(i));
+        compare("written(" + i + ")", () -> desk.written(i), () -> model.written(i));
+        compareCount(i);
     }
 
     private void compareCount(int what) {

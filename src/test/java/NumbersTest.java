@@ -10,7 +10,6 @@ public final class NumbersTest {
         wholes();
         limitsOfReals();
         rows();
-        leftToRight();
         Desk.end();
     }
 
@@ -95,15 +94,5 @@ public final class NumbersTest {
         desk.has(0, "v[4]=1").fails(0, Desk.INDEX).has(0, "v[0-1]=1").fails(0, Desk.INDEX);
         desk.holds(7, 5).holds(8, 6).holds(9, 7).holds(10, 8).holds(6, 0);
         desk.has(0, "v[v[1]-5]=v[1]*2").runs(0, 1).holds(8, 12);
-    }
-
-    private static void leftToRight() {
-        Desk desk = new Desk();
-        desk.worksNot("1/0+v[4]", Desk.ARITHMETIC).worksNot("v[4]+1/0", Desk.INDEX).worksNot("v[4]*(1%0)", Desk.INDEX);
-        desk.worksNot("(1%0)*v[4]", Desk.ARITHMETIC).worksNot("1/0<v[4]", Desk.ARITHMETIC).worksNot("v[4]=1/0", Desk.INDEX);
-        desk.worksNot("v[4]/0", Desk.INDEX).worksNot("1/v[4]", Desk.INDEX).worksNot("1/0/v[4]", Desk.ARITHMETIC);
-        desk.worksNot("0*v[4]+1/0", Desk.INDEX).worksNot("v[#(1/0)]", Desk.ARITHMETIC).worksNot("(0<1)+v[9]", Desk.INDEX);
-        desk.has(0, "v[4]=1%0").fails(0, Desk.INDEX).has(0, "v[1%0]=v[4]").fails(0, Desk.ARITHMETIC);
-        desk.has(0, "v[0]=1%0").fails(0, Desk.ARITHMETIC).has(0, "v[v[4]]=1%0").fails(0, Desk.INDEX);
     }
 }

@@ -1,4 +1,4 @@
-/** Promise 10: order and limits; that of type is in TypeTest too. */
+/** Promise 10: order and limits of run; those of type are in TypeTest. */
 public final class OrderTest {
     public static void main(String[] args) {
         Desk desk = new Desk();
@@ -14,20 +14,10 @@ public final class OrderTest {
         }
         desk.fails(0, 10, 0, Desk.BAD).fails(0, 0, 10, Desk.BAD).fails(-1, 0, 0, Desk.BAD).fails(4, 0, 0, Desk.BAD);
         stays(desk);
-        typeOrder();
         Desk.end();
     }
 
     private static void stays(Desk desk) {
         desk.counts(3, 7).wrote(6, 7).counts(5, 3).counts(6, 5).counts(7, 3).counts(8, 3).counts(9, 0).holds(0, 1);
-    }
-
-    private static void typeOrder() {
-        Desk desk = new Desk().types("!1;!1;!1;!1;!1;!1;!1;!1;!1;!1;!1;!1;!1;!1;!1;!1");
-        desk.counts(1, 47);
-        Desk.dueThrow("bad last", () -> desk.it().type(Desk.pack("abcdef\t")), Desk.BAD);
-        Desk.dueThrow("bad first", () -> desk.it().type(Desk.pack("\tabcdef")), Desk.BAD);
-        Desk.dueThrow("too many", () -> desk.it().type(Desk.pack("ab")), Desk.STATE);
-        desk.counts(1, 47);
     }
 }

@@ -29,6 +29,7 @@ final class PlaceEdges {
         desk.has(0, "v[v[v[v[v[0]]]]]=1", 1).refuses("v[v[v[v[v[v[0]]]]]]=1", 11);
         desk.has(0, "?1{?1{?1{?1{?1{S0}}}}}", 6).refuses("?1{?1{?1{?1{?1{?1{S0}}}}}}", 17);
         desk.has(0, "@1{@1{@1{@1{@1{S0}}}}}", 6).refuses("@1{@1{@1{@1{@1{@1{S0}}}}}}", 17);
+        desk.has(0, "&{&{&{&{&{S0|S0}|S0}|S0}|S0}|S0}", 11).refuses("&{&{&{&{&{&{S0|S0}|S0}|S0}|S0}|S0}|S0}", 11);
         desk.has(0, "&{S0|&{S0|&{S0|&{S0|&{S0|S0}}}}}", 11).refuses("&{S0|&{S0|&{S0|&{S0|&{S0|&{S0|S0}}}}}}", 26);
         desk.has(0, "?1{@1{!v[(#7)]}}", 3).refuses("?1{@1{!v[(#(7))]}}", 11).refuses("?1{@1{!v[(##7)]}}", 11);
         tillItIsOver();
@@ -43,6 +44,9 @@ final class PlaceEdges {
         desk.has(0, "!(#7+(((#7))))", 1).refuses("!(#7+(((##7))))", 9).has(0, "!(#v[0]*(((#7))))", 1);
         desk.refuses("!(#v[0]*(((##7))))", 12).has(0, "!##123+#####a", 1).refuses("!##123+######a", 12);
         desk.has(0, "!#(((#7)))*#####7", 1).refuses("?1{S0};!((((((7", 13);
+        // The first BODY of a BOTH is over when the second begins.
+        desk.has(0, "&{?1{?1{?1{?1{S0}}}}|?1{?1{?1{?1{S0}}}}}", 11).refuses("&{S0|?1{?1{?1{?1{?1{S0}}}}}}", 19);
+        desk.refuses("&{?1{?1{?1{?1{?1{S0}}}}}|S0}", 16);
     }
 
     private static void firstWrongCharacter() {
@@ -65,7 +69,10 @@ final class PlaceEdges {
     }
 
     private static void sixthDepth() {
-        String[] opened = {"!(((((", "!(####", "!v[v[v[v[v[", "!(#(#(", "?1{?1{?1{!((", "&{S0|&{S0|&{S0|!##", "@#1{!((((", "!v[(v[#("};
+        String[] opened = {
+            "!(((((", "!(####", "!v[v[v[v[v[", "!(#(#(", "!#(#(#", "!v[(v[#(", "v[(#v[(", "?1{?1{?1{!((", "&{S0|&{S0|&{S0|!##",
+            "@#1{!(((("
+        };
         for (String five : opened) {
             new Desk().refuses(five + "(7", five.length()).refuses(five + "#7", five.length());
             new Desk().refuses(five + "v[0", five.length() + 1).refuses(five + "7", five.length() + 1);
@@ -196,6 +203,10 @@ final class PlaceEdges {
         Desk desk = new Desk().has(0, "S0", 1).has(0, "S0;W0", 2).has(0, "a=1;r=1;v[0]=1;!1;P0", 5).has(0, "?1{S0}", 2);
         desk.has(0, "@1{S0;S0}", 3).has(0, "&{S0|S0}", 3).has(0, "&{S0;S0|S0;S0};S0", 6).has(0, "?1{@1{&{S0|S0}}}", 5);
         desk.has(0, "?1{?1{?1{?1{?1{S0}}}}}", 6).has(0, "S0;S0;S0;S0;S0;S0;S0;S0;S0;S0;S0;S0;S0;S0;S0;S0", 16);
+        for (String one : "a=1 t=1 v[3]=1 !1 W1 S1 P3".split(" ")) {
+            desk.has(0, one, 1).has(0, one + ";" + one, 2).has(0, "?1{" + one + "}", 2).has(0, "@1{S0;" + one + "}", 3);
+            desk.has(0, "&{" + one + "|" + one + "}", 3);
+        }
         // What a called one has is not counted, nor what was read before.
         desk.has(1, "S0;S0;S0", 3).has(0, "P1", 1).refuses("S0;S0;S0;", 9).has(0, "S0", 1);
     }

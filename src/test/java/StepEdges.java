@@ -171,6 +171,10 @@ final class StepEdges {
         Desk loop = new Desk().has(0, "b=9;@b{b=b-1;P1}").has(1, "P2").has(2, "P3").has(3, "c=c+1");
         loop.runs(0, 56).holds(2, 9);
         desk.sets(0, 7).has(1, "P0").fails(1, Desk.STATE).sets(0, 6).runs(1, 24).sets(0, 6).runs(1, 24);
+        // Those of another part, which it didn't come from, don't count either.
+        Desk parts = new Desk().has(0, "&{P1|P1};!7").has(1, "P2").has(2, "P3").has(3, "S0;W0;S0").tape(0, 0, 1);
+        parts.runs(0, 14).wrote(7).has(1, "a=a-1;?a{P1};!a").has(0, "&{P1|P2};!7").has(2, "b=b-1;?b{P2};!b");
+        parts.sets(0, 6).sets(1, 5).tape(0, 0, 1).runs(0, 46).counts(4, 12).sets(0, 7).sets(1, 1).fails(0, Desk.STATE);
         for (int calls = 0; calls <= 5; calls++) {
             for (int ofFirst = 1; ofFirst <= 4; ofFirst++) {
                 for (int ofSecond = 1; ofSecond <= 4; ofSecond++) {
@@ -266,6 +270,7 @@ final class StepEdges {
         // Who waits for the other one is not READY by it.
         desk.tape(0).has(0, "&{W0;!1|S1;!2}").fails(0, Desk.STATE).wrote(2).counts(5, 0).counts(6, 1).counts(3, 4);
         desk.has(0, "&{W1;!1|S0;!2}").fails(0, Desk.STATE).wrote(2).counts(5, 1).counts(6, 0).counts(3, 4);
+        desk.has(0, "&{&{W0;!1|W1;!2}|S1;S0}").tape(0, 0, 1, 1, 0, 1, 0).runs(0, 8).wrote(2, 1).counts(9, 2);
         // One SIGNAL is for one that waits, the first.
         desk.has(0, "&{&{W0;!1|W0;!2}|S0}").tape(0, 0, 1, 1, 0, 0).fails(0, Desk.STATE).counts(3, 6).wrote(1);
         desk.tape(0, 0, 2, 1, 0, 0).fails(0, Desk.STATE).counts(3, 6).wrote(2).counts(5, 0).counts(9, 2);

@@ -292,6 +292,7 @@ final class TextEdges {
         for (double[] pair : pairs) {
             desk.sets(4, pair[0]).works("#r", pair[1]);
         }
+        // No REAL can be beyond the ends of the ints: outcomes end at 1000000000.0, and it is set to INTEGERS.
         desk.has(0, "a=256*256*256*128-1;b=a+1;r=a;s=b").runs(0, 4).holds(4, MAX).holds(5, MIN);
         desk.works("#r", MAX).works("#s", MIN).works("#r+1", MIN).works("#s-1", MAX).works("#a", MAX).works("#b", MIN);
         desk.works("#(s/4)", MIN / 4).works("#(r/4)", 536870911).works("#(s/4-1/2)", MIN / 4);

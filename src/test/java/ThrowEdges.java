@@ -158,6 +158,12 @@ final class ThrowEdges {
         desk.counts(5, 3).holds(0, 3).holds(3, 0);
         // What is right there goes on to its end.
         begun("b=1;s=1;v[2]=1").runs(0, 2, 0, 9).wrote(3).counts(5, 3).holds(1, 1).holds(5, 1).holds(9, 1).holds(3, 9);
+        // What was half worked out is of no use to later runs, however often.
+        desk = new Desk().has(0, "!1+(2+(3+(4+5/0)))");
+        for (int i = 0; i < 60; i++) {
+            desk.fails(0, Desk.ARITHMETIC);
+        }
+        desk.works("1+(2+(3+(4+5*6)))", 40);
         // What the other part did stays, and what it would do next is not done.
         desk = new Desk().has(0, "&{a=1;S1;!7;b=1|c=1%0}").tape(0, 0, 0, 0, 1).fails(0, Desk.ARITHMETIC).counts(3, 5);
         desk.holds(0, 1).holds(1, 0).holds(2, 0).counts(6, 1).wrote(7);
