@@ -298,10 +298,12 @@ public final class PascalDesk {
         }
 
         private boolean needs(char sign) {
-            if (!takes(sign)) {
+            if (peek() != sign) {
                 refused = true;
+                return false;
             }
-            return !refused;
+            at++;
+            return true;
         }
 
         /** Takes a sign that opens one more depth than stands open. */
